@@ -520,7 +520,7 @@ public final class OnesDesk {
             return ways[0];
         }
 
-        /** After reckon(): opens only what some row really goes through, so that open tells of rows. */
+        /** After reckon(): leaves open only what some row really goes through. */
         void closeDeadWays() {
             for (int set = 0; set <= full; set++) {
                 if (!isReached(set)) {
@@ -638,9 +638,8 @@ public final class OnesDesk {
         /** Whether a set stands together in each row; takes rows without dead ways. */
         boolean alwaysTogether(int kept) {
             for (int set = 0; set <= full; set++) {
-                boolean begun = (kept & set) != 0;
-                boolean unended = (kept & ~set) != 0;
-                if (begun && unended && (open[set] & ~kept) != 0) {
+                boolean letsOthers = (open[set] & ~kept) != 0;
+                if (letsOthers && (kept & set) != 0 && (kept & ~set) != 0) {
                     return false;
                 }
             }
