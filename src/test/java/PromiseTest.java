@@ -226,9 +226,20 @@ public final class PromiseTest {
     due("why of one TAKEN now", x.why(3), -3);
     due("again(2)", x.again(2), 0);
     due("1 and 3 bar 2", x.why(2), 3);
-    due("why(5)", x.why(5), -1);
+    due("drop(3)", x.drop(3), 1);
+    due("drop(4)", x.drop(4), 1);
+    due("line(14)", x.line(14), 5);
+    due("again(2)", x.again(2), 1);
+    due("line(10)", x.line(10), 6);
+    due("0, 1 and 2 bar it", x.why(6), 2);
+    due("why(7)", x.why(7), -1);
     due("why(-1)", x.why(-1), -1);
     refused("whys", x, 2, 0, 3, 0, 0, 0);
+    x = desk(4, 7, 12, 8, 10);
+    due("lines 0 and 1 bar it", x.why(3), 1);
+    due("drop(1)", x.drop(1), 1);
+    due("line(9)", x.line(9), 4);
+    due("lines 0 and 4 bar it", x.why(3), 4);
   }
 
   private static void rowsAndTheirNumbers() {
@@ -480,6 +491,11 @@ public final class PromiseTest {
     due("weighed", x.gaps(1), 202);
     due("drop(6)", x.drop(6), 1);
     due("DROPPED ones have none", x.gaps(1), 200);
+    x = desk(3, 5, 3);
+    due("drop(0)", x.drop(0), 1);
+    due("line(6)", x.line(6), 2);
+    due("again(0)", x.again(0), 0);
+    due("line 0 has gaps, too", x.gaps(0), 1);
   }
 
   private static void bests() {
