@@ -3,7 +3,8 @@
  *
  * Whether a column may come next in a row hangs only on the SET of columns that stand already: a
  * line that has begun and is not at its end lets none but its own columns on. So all GOOD rows are
- * the ways from the empty set to the full one through at most 256 sets, and no call lists them.
+ * the ways from the empty set to the full one through at most 256 sets, and no call keeps a list
+ * of them. (Only within walks along many, and leaves a way as soon as its answer is sure.)
  */
 public final class OnesDesk {
     private static final int MOST_COLUMNS = 8;
