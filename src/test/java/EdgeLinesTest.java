@@ -14,6 +14,7 @@ public final class EdgeLinesTest {
     lineSets();
     lineRoom();
     drops();
+    droppedOnesAreAsNeverTold();
     leftOnesStaySo();
     agains();
     againWithAllLines();
@@ -220,6 +221,25 @@ public final class EdgeLinesTest {
     DOC.refused(x, 4, 0, 4, 0, 0, 0);
     due("DROPPED", x.count(4), 4);
     due("the others' rows", x.rows(), 4);
+  }
+
+  private static void droppedOnesAreAsNeverTold() {
+    DOC.says("4: GOOD ROWS without a DROPPED LINE are those of the others");
+    OnesDesk x = DOC.inOneOrder(4);
+    due("drop the midmost", x.drop(1), 1);
+    due("rows", x.rows(), 8);
+    due("knots", x.knots(), 7);
+    due("0 1", x.knot(4, 0), 3);
+    due("2 3", x.knot(5, 0), 12);
+    due("least distance", x.apart(0, 3, true), 1);
+    due("greatest distance", x.apart(1, 2, false), 3);
+    due("an end", x.ends(1), 1);
+    due("next", x.next(0, 3), 1);
+    due("drop the first", x.drop(0), 1);
+    due("greatest distance", x.apart(0, 1, false), 3);
+    due("drop the last", x.drop(2), 1);
+    due("all rows", x.rows(), 24);
+    due("knots of none", x.knots(), 5);
   }
 
   private static void leftOnesStaySo() {

@@ -21,6 +21,7 @@ public final class EdgeRowsTest {
     distances();
     gapsOfRows();
     bests();
+    bestOfEight();
     withins();
     DOC.end();
   }
@@ -411,6 +412,30 @@ public final class EdgeRowsTest {
     due("{0 1} weighs more", x.best(), 0);
     due("weight(2, 98)", x.weight(2, 98), 100);
     due("{0 2} weighs more", x.best(), 1);
+  }
+
+  private static void bestOfEight() {
+    DOC.says("22: BEST of 8 COLUMNS");
+    OnesDesk x = DOC.inOneOrder(8);
+    int[] pairs = {5, 20, 80, 66, 10, 40, 160};
+    for (int i = 0; i < 7; i++) due("line(" + pairs[i] + ")", x.line(pairs[i]), 7 + i);
+    due("all torn but where there is no other row", x.best(), 0);
+    due("gaps", x.gaps(0), 7);
+    for (int line = 0; line < 7; line++) due("drop", x.drop(line), 1);
+    // 0 2 4 6 1 3 5 7, ahead of which are 720 + 2 * 120 + 3 * 24 rows.
+    due("the one order without gaps", x.best(), 1032);
+    DOC.rowIs(x, 1032, 0, 2, 4, 6, 1, 3, 5, 7);
+    due("gaps", x.gaps(1032), 0);
+    due("turned about", x.within(0), 2);
+    due("drop(10)", x.drop(10), 1);
+    // 0 2 4 6 and 1 3 5 7 now stand free: 0 2 4 6 1 3 5 7 is still the least.
+    due("the least of 8", x.best(), 1032);
+    due("8", x.within(0), 8);
+    due("line(3)", x.line(3), 14);
+    // 6 4 2 0 1 3 5 7 alone, numbered among the rows with 0 1 side by side.
+    due("numbered among fewer", x.best(), x.rank(0x64201357));
+    due("gaps", x.gaps(x.best()), 0);
+    due("turned about", x.within(0), 2);
   }
 
   private static void withins() {

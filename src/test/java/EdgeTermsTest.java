@@ -241,6 +241,16 @@ public final class EdgeTermsTest {
     due("no TAKEN line at all", x.count(2), 0);
     due("nothing can bar it", x.why(2), -9);
     DOC.refused(x, 0, 0, 0, 0, 0, 0);
+    x = DOC.desk(3, 3, 6, 5);
+    DOC.fillUp(x, 40);
+    due("all 40 lines", x.why(2), 1);
+    due("drop(0)", x.drop(0), 1);
+    due("none of all 40 bars it any more", x.why(2), -9);
+    x = DOC.desk(3, 0, 0, 0, 3);
+    due("table(3)", x.table(3), 1);
+    for (int set : new int[] {3, 6, 5}) x.line(set);
+    due("drop(0)", x.drop(0), 1);
+    due("nor does a line of the table before", x.why(2), -9);
   }
 
   private static void knotsAreNotEmpty() {
@@ -362,11 +372,27 @@ public final class EdgeTermsTest {
     for (int line = 0; line < 7; line++) due("drop", x.drop(line), 1);
     due("a LEFT one that stands TOGETHER", x.gaps(x.rank(0x34012567)), 0);
     due("and where it does not", x.gaps(x.rank(0x01234567)), 1);
+    firstAndLastAreLeft();
     DOC.says("times its WEIGHT");
     due("weight(9, 100)", x.weight(9, 100), 1);
     due("100 times", x.gaps(0), 100);
     due("weight(9, 0)", x.weight(9, 0), 100);
     due("0 times", x.gaps(0), 0);
+  }
+
+  private static void firstAndLastAreLeft() {
+    DOC.says("all LINES that are LEFT, the first and the last of 40 among them");
+    OnesDesk x = DOC.desk(3, 5, 3);
+    due("drop(0)", x.drop(0), 1);
+    due("line(6)", x.line(6), 2);
+    due("again(0)", x.again(0), 0);
+    due("the first", x.gaps(0), 1);
+    DOC.fillUp(x, 39);
+    due("line(5)", x.line(5), 39);
+    due("the last, too", x.gaps(0), 2);
+    due("drop(0)", x.drop(0), 1);
+    due("the last alone", x.gaps(1), 1);
+    due("no row has fewer", x.within(0), 0);
   }
 
   private static void greatestGaps() {

@@ -4,12 +4,19 @@ import java.util.Random;
 public final class ModelTest {
   private static final int[] ODD = {Integer.MIN_VALUE, -256, -9, -4, -1, 0, 1, 7, 8, 9, 40, 41, 100,
       101, 255, 256, 40319, 40320, Integer.MAX_VALUE};
+  /** What a desk answers after its 512th call is free. */
+  private static final int MOST_CALLS = 512;
+  /** askCounts makes so many. */
+  private static final int COUNTS = 21;
+  /** ask makes so many at most. */
+  private static final int MOST_ASKED = 6 + COUNTS;
   private static final Checks CHECKS = new Checks();
 
   private final Random random;
   private final OnesDesk desk = new OnesDesk();
   private final PlainDesk plain = new PlainDesk();
   private final StringBuilder story = new StringBuilder();
+  private int calls = 0;
   /** Lines made of neighbours in this order are mostly TAKEN. */
   private int[] order = {0};
 
@@ -18,28 +25,32 @@ public final class ModelTest {
   }
 
   public static void main(String[] args) {
-    for (int seed = 1; seed <= 400 && CHECKS.wrong() == 0; seed++) {
-      new ModelTest(seed).run(1 + seed % 8, 250);
+    for (int seed = 1; seed <= 1200 && CHECKS.wrong() == 0; seed++) {
+      new ModelTest(seed).run(1 + seed % 8);
     }
-    for (int seed = 1001; seed <= 1100 && CHECKS.wrong() == 0; seed++) {
-      new ModelTest(seed).run(1 + seed % 7, 512);
+    for (int seed = 2001; seed <= 2400 && CHECKS.wrong() == 0; seed++) {
+      new ModelTest(seed).run(3 + seed % 5);
     }
     CHECKS.end();
   }
 
-  private void run(int n, int calls) {
+  private void run(int n) {
     int before = CHECKS.wrong();
+    // Some runs ask seldom, so that many lines are told before the calls are used up.
+    int askedOf = 2 + random.nextInt(6);
     start(n);
-    for (int i = 0; i < calls && CHECKS.wrong() == before; i++) {
-      if (random.nextInt(300) == 0) start(1 + random.nextInt(n));
-      else if (random.nextInt(3) == 0) change();
-      else ask();
+    while (calls + MOST_ASKED + COUNTS <= MOST_CALLS && CHECKS.wrong() == before) {
+      if (random.nextInt(200) == 0) start(1 + random.nextInt(n));
+      else if (random.nextInt(askedOf) == 0) ask();
+      else change();
     }
     askCounts();
+    while (calls < MOST_CALLS && CHECKS.wrong() == before) change();
     if (CHECKS.wrong() != before) System.out.println("after:" + story);
   }
 
   private void due(String call, int got, int want) {
+    calls++;
     CHECKS.due(call, got, want);
     story.append(' ').append(call);
   }

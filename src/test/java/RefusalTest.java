@@ -209,7 +209,9 @@ public final class RefusalTest {
       refused("gaps(" + i + ")", -1, x -> x.gaps(i));
     }
     for (int i : new int[] {0, rows - 1}) {
-      for (int p : new int[] {LEAST, -1}) refused("row(" + i + ", " + p + ")", -4, x -> x.row(i, p));
+      for (int p : new int[] {LEAST, -1}) {
+        refused("row(" + i + ", " + p + ")", -4, x -> x.row(i, p));
+      }
       for (int p : new int[] {columns, columns + 1, 8, MOST}) {
         refused("row(" + i + ", " + p + ")", -6, x -> x.row(i, p));
       }

@@ -30,7 +30,9 @@ final class Sight {
 
   private void readLines(int lines) {
     for (int i = 0; i < lines; i++) {
-      for (int what = 0; what < 3; what++) put("lineOf(" + i + ", " + what + ")", x.lineOf(i, what));
+      for (int what = 0; what < 3; what++) {
+        put("lineOf(" + i + ", " + what + ")", x.lineOf(i, what));
+      }
       put("why(" + i + ")", x.why(i));
       put("spare(" + i + ")", x.spare(i));
     }
