@@ -240,6 +240,16 @@ public final class EdgeLinesTest {
     due("drop the last", x.drop(2), 1);
     due("all rows", x.rows(), 24);
     due("knots of none", x.knots(), 5);
+    x = DOC.inOneOrder(4);
+    due("drop the first", x.drop(0), 1);
+    due("rows", x.rows(), 4);
+    due("least distance of those kept", x.apart(1, 3, true), 2);
+    due("greatest distance of those kept", x.apart(1, 3, false), 2);
+    due("least distance of the one let go", x.apart(0, 2, true), 2);
+    due("greatest distance of the one let go", x.apart(0, 3, false), 3);
+    due("knots", x.knots(), 6);
+    due("1 2 3", x.knot(4, 0), 14);
+    due("kind", x.knot(4, 1), 3);
   }
 
   private static void leftOnesStaySo() {
