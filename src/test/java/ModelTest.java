@@ -4,19 +4,15 @@ import java.util.Random;
 public final class ModelTest {
   private static final int[] ODD = {Integer.MIN_VALUE, -256, -9, -4, -1, 0, 1, 7, 8, 9, 40, 41, 100,
       101, 255, 256, 40319, 40320, Integer.MAX_VALUE};
-  /** What a desk answers after its 512th call is free. */
-  private static final int MOST_CALLS = 512;
-  /** askCounts makes so many. */
+  /** askCounts makes so many calls. */
   private static final int COUNTS = 21;
   /** ask makes so many at most. */
   private static final int MOST_ASKED = 6 + COUNTS;
   private static final Checks CHECKS = new Checks();
 
   private final Random random;
-  private final OnesDesk desk = new OnesDesk();
-  private final PlainDesk plain = new PlainDesk();
-  private final StringBuilder story = new StringBuilder();
-  private int calls = 0;
+  private final Twins twins = new Twins(CHECKS);
+  private final PlainDesk plain = twins.plain;
   /** Lines made of neighbours in this order are mostly TAKEN. */
   private int[] order = {0};
 
@@ -39,24 +35,18 @@ public final class ModelTest {
     // Some runs ask seldom, so that many lines are told before the calls are used up.
     int askedOf = 2 + random.nextInt(6);
     start(n);
-    while (calls + MOST_ASKED + COUNTS <= MOST_CALLS && CHECKS.wrong() == before) {
+    while (twins.callsLeft() >= MOST_ASKED + COUNTS && CHECKS.wrong() == before) {
       if (random.nextInt(200) == 0) start(1 + random.nextInt(n));
       else if (random.nextInt(askedOf) == 0) ask();
       else change();
     }
     askCounts();
-    while (calls < MOST_CALLS && CHECKS.wrong() == before) change();
-    if (CHECKS.wrong() != before) System.out.println("after:" + story);
-  }
-
-  private void due(String call, int got, int want) {
-    calls++;
-    CHECKS.due(call, got, want);
-    story.append(' ').append(call);
+    while (twins.callsLeft() > 0 && CHECKS.wrong() == before) change();
+    if (CHECKS.wrong() != before) System.out.println("after:" + twins.story());
   }
 
   private void start(int n) {
-    due("table(" + n + ")", desk.table(n), plain.table(n));
+    twins.table(n);
     order = new int[n];
     for (int i = 0; i < n; i++) {
       int j = random.nextInt(i + 1);
@@ -103,19 +93,13 @@ public final class ModelTest {
 
   private void change() {
     int kind = random.nextInt(10);
-    if (kind < 4) {
-      int set = set();
-      due("line(" + set + ")", desk.line(set), plain.line(set));
-    } else if (kind < 6) {
+    if (kind < 4) twins.line(set());
+    else if (kind < 6) twins.drop(line());
+    else if (kind < 8) twins.again(line());
+    else {
       int line = line();
-      due("drop(" + line + ")", desk.drop(line), plain.drop(line));
-    } else if (kind < 8) {
-      int line = line();
-      due("again(" + line + ")", desk.again(line), plain.again(line));
-    } else {
-      int line = line();
-      int w = random.nextInt(4) == 0 ? odd() : random.nextInt(random.nextBoolean() ? 5 : 101);
-      due("weight(" + line + ", " + w + ")", desk.weight(line, w), plain.weight(line, w));
+      int small = random.nextBoolean() ? 5 : 101;
+      twins.weight(line, random.nextInt(4) == 0 ? odd() : random.nextInt(small));
     }
   }
 
@@ -129,56 +113,42 @@ public final class ModelTest {
 
   private void askOfLines() {
     int line = line();
-    int what = some(4);
-    due("lineOf(" + line + ", " + what + ")", desk.lineOf(line, what), plain.lineOf(line, what));
-    due("why(" + line + ")", desk.why(line), plain.why(line));
-    due("spare(" + line + ")", desk.spare(line), plain.spare(line));
+    twins.lineOf(line, some(4));
+    twins.why(line);
+    twins.spare(line);
   }
 
   private void askOfRows() {
-    due("rows()", desk.rows(), plain.rows());
+    twins.rows();
     int i = some(plain.rows() + 1);
-    int p = random.nextInt(25) == 0 ? order.length : some(order.length);
-    due("row(" + i + ", " + p + ")", desk.row(i, p), plain.row(i, p));
-    int row = packedRow();
-    due("rank(" + row + ")", desk.rank(row), plain.rank(row));
-    due("gaps(" + i + ")", desk.gaps(i), plain.gaps(i));
-    due("best()", desk.best(), plain.best());
-    int g = random.nextInt(10) == 0 ? odd()
-        : plain.gaps(random.nextInt(plain.rows())) + random.nextInt(3) - 1;
-    due("within(" + g + ")", desk.within(g), plain.within(g));
+    twins.row(i, column());
+    twins.rank(packedRow());
+    twins.gaps(i);
+    twins.best();
+    twins.within(random.nextInt(10) == 0 ? odd()
+        : plain.gaps(random.nextInt(plain.rows())) + random.nextInt(3) - 1);
   }
 
   private void askOfColumns() {
     int a = column();
     int b = column();
-    int c = column();
     int set = set();
-    boolean least = random.nextBoolean();
-    due("together(" + set + ")", desk.together(set), plain.together(set));
-    due("round(" + set + ")", desk.round(set), plain.round(set));
-    due("between(" + a + ", " + b + ", " + c + ")", desk.between(a, b, c), plain.between(a, b, c));
-    due("next(" + a + ", " + b + ")", desk.next(a, b), plain.next(a, b));
-    due("ends(" + a + ")", desk.ends(a), plain.ends(a));
-    due("apart(" + a + ", " + b + ", " + least + ")", desk.apart(a, b, least),
-        plain.apart(a, b, least));
+    twins.together(set);
+    twins.round(set);
+    twins.between(a, b, column());
+    twins.next(a, b);
+    twins.ends(a);
+    twins.apart(a, b, random.nextBoolean());
   }
 
   private void askOfKnots() {
-    due("knots()", desk.knots(), plain.knots());
-    int k = random.nextBoolean() ? plain.knots() - 1 : some(plain.knots() + 1);
-    int what = some(9);
-    due("knot(" + k + ", " + what + ")", desk.knot(k, what), plain.knot(k, what));
-    int a = column();
-    int b = column();
-    due("join(" + a + ", " + b + ")", desk.join(a, b), plain.join(a, b));
+    twins.knots();
+    twins.knot(random.nextBoolean() ? plain.knots() - 1 : some(plain.knots() + 1), some(9));
+    twins.join(column(), column());
   }
 
   private void askCounts() {
-    for (int what = -1; what <= 18; what++) {
-      due("count(" + what + ")", desk.count(what), plain.count(what));
-    }
-    int what = odd();
-    due("count(" + what + ")", desk.count(what), plain.count(what));
+    for (int what = -1; what <= 18; what++) twins.count(what);
+    twins.count(odd());
   }
 }
