@@ -64,6 +64,7 @@ public final class SmallTablesTest {
     SmallTablesTest it = new SmallTablesTest(n, told);
     it.askOfLines();
     it.askOfRows();
+    it.askOfRanks(0, 0, 0);
     it.askOfColumns();
     it.askOfKnots();
     for (int line = 0; line < told.size(); line++) it.dropAndTellAgain(line);
@@ -114,6 +115,20 @@ public final class SmallTablesTest {
     for (int gaps = -1; gaps <= most + 1; gaps++) {
       room(1);
       twins.within(gaps);
+    }
+  }
+
+  /** Of every order of all columns; in the smallest tables of what is no order, too. */
+  private void askOfRanks(int row, int place, int used) {
+    if (place == n) {
+      room(2);
+      twins.rank(row);
+      twins.rank(row | 1 << 4 * n);
+      return;
+    }
+    for (int column = 0; column <= n; column++) {
+      boolean fits = column < n && (used >> column & 1) == 0;
+      if (fits || n < 4) askOfRanks(row << 4 | column, place + 1, used | 1 << column);
     }
   }
 
